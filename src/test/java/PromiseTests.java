@@ -643,6 +643,14 @@ public final class PromiseTests {
         due("before and behind: register(2)", x.register(2), 1);
         due("before and behind: register(8)", x.register(8), 4);
         dueKept("before and behind", x, 3);
+        // The word right behind the STORE, the last one there is.
+        x = with(2, 61, number(1), word(STORE, 0, 3, 5, 63), number(2));
+        x.set(5, word(JUMP, 0, 0, 0, 20));
+        due("right behind: run", x.run(), 0);
+        due("right behind: register(2)", x.register(2), 0);
+        due("right behind: register(8)", x.register(8), 20);
+        dueTaken("right behind", x, 9 + 1 + 3 + 1 + 3 + 1, 15, 3, 0, 3, 4);
+        dueKept("right behind", x, 20, 63);
         // The first word behind the block is not its word.
         x = with(2, 0, word(STORE, 0, 3, 5, 3), number(2), word(JUMP, 0, 0, 0, 3), number(1));
         due("beside: run", x.run(), 0);
