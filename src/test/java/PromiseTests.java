@@ -1,68 +1,5 @@
 /** One method for each promise; every answer that is due was worked out by hand from the document. */
-public final class PromiseTests {
-    private static final int STOP = 0, ADD = 1, SUB = 2, MUL = 3, ADDN = 4, LOAD = 5, STORE = 6, JUMP = 7;
-    private static final int ZERO = 8, LESS = 9, AND = 10, XOR = 11, SHIFT = 12, DIV = 13;
-    private static final int MIN = -2147483648, MAX = 2147483647;
-
-    private static int wrong = 0;
-
-    private static void due(String what, long got, long want) {
-        if (got != want) {
-            wrong++;
-            System.out.println(what + " answered " + got + ", due is " + want);
-        }
-    }
-
-    private static void due(String what, boolean got, boolean want) {
-        due(what, got ? 1 : 0, want ? 1 : 0);
-    }
-
-    /** An instruction's word, worked out apart from the class. */
-    private static int word(int op, int d, int a, int b, int n) {
-        return op + 16 * d + 128 * a + 1024 * b + 8192 * n;
-    }
-
-    private static WideMachine with(int width, int at, int... words) {
-        WideMachine x = new WideMachine();
-        x.width(width);
-        fill(x, at, words);
-        x.set(8, at);
-        return x;
-    }
-
-    private static void fill(WideMachine x, int at, int... words) {
-        for (int k = 0; k < words.length; k++) {
-            x.put(at + k, words[k]);
-        }
-    }
-
-    private static void dueTaken(String what, WideMachine x, int... want) {
-        for (int k = 0; k < want.length; k++) {
-            due(what + ": taken(" + k + ")", x.taken(k), want[k]);
-        }
-    }
-
-    private static void dueKept(String what, WideMachine x, int... want) {
-        for (int k = 0; k < 4; k++) {
-            due(what + ": kept(" + k + ")", x.kept(k), k < want.length ? want[k] : -1);
-        }
-    }
-
-    private static void dueCycles(String what, int width, int[] words, int... want) {
-        WideMachine x = with(width, 0, words);
-        for (int k = 0; k < want.length; k++) {
-            due(what + ", width " + width + ": cycle(0, " + k + ")", x.cycle(0, k), want[k]);
-        }
-    }
-
-    private static int[] words(int... words) {
-        return words;
-    }
-
-    private static int number(int d) {
-        return word(ADDN, d, 0, 0, 1);
-    }
-
+public final class PromiseTests extends Checks {
     private static void promise1() {
         due("OK", WideMachine.OK, 0);
         due("ADDRESS", WideMachine.ADDRESS, 1);
@@ -188,15 +125,6 @@ public final class PromiseTests {
         due("width(1) again", x.width(1), true);
         dueKept("the same width", x);
         due("not kept: block(0, 2)", x.block(0, 2), 0);
-    }
-
-    private static int result(int op, int a, int b, int n) {
-        WideMachine x = with(2, 0, word(op, 3, 1, 2, n), STOP);
-        x.set(1, a);
-        x.set(2, b);
-        x.set(3, 77);
-        due("run of op " + op, x.run(), 0);
-        return x.register(3);
     }
 
     private static void resultsOfInstructions() {
@@ -524,11 +452,6 @@ public final class PromiseTests {
         due("as width is now: cycle(0, 1)", x.cycle(0, 1), 2);
     }
 
-    private static void runAt(WideMachine x, int at) {
-        x.set(8, at);
-        x.run();
-    }
-
     private static void promise12() {
         WideMachine x = new WideMachine();
         for (int at = 0; at < 4; at++) {
@@ -704,8 +627,6 @@ public final class PromiseTests {
         promise12();
         promise13();
         promise14();
-        if (wrong > 0) {
-            System.exit(1);
-        }
+        end();
     }
 }
